@@ -1,0 +1,264 @@
+import java.util.ArrayDeque;
+import java.util.Deque;
+import java.util.Random;
+
+/** Runs of 512 calls by fixed seeds: the class and the model of the document answer the same. */
+final class RandomRuns {
+    private static final int RUNS = 3000;
+    private static final int CALLS = 512;
+    private static final int CALLS_BETWEEN_LOOKS = 64;
+    private static final String[] TEXTS = {
+        "0:0", "1:255=9999", "2:17,3:18=0", "0:5=70,0:160,1:5", "5:300", "0:05", "4:1=00", "3:16=1,", "0:,", "7:1",
+        "0:0,0:16,0:32,0:48,0:64,0:80,0:96,1:112,1:128,2:144,2:160", "",
+    };
+
+    private final Random random;
+    private final ShardTrails x = new ShardTrails();
+    private final Model model = new Model();
+    private final int[] weights = new int[30];
+    private final Deque<Character> toType = new ArrayDeque<>();
+    private int got;
+    private int want;
+    private String call = "";
+
+    private RandomRuns(int seed) {
+        random = new Random(seed);
+    }
+
+    static void run() {
+        Check.rule("random runs beside a model");
+        for (int seed = 0; seed < RUNS; seed++) {
+            new RandomRuns(seed).runOnce(seed);
+        }
+    }
+
+    private void runOnce(int seed) {
+        for (int i = 0; i < weights.length; i++) {
+            weights[i] = random.nextInt(4) == 0 ? 10 : 1 + random.nextInt(3);
+        }
+        weights[18] = 1;
+        boolean still = random.nextBoolean();
+        for (int number = 0; number < CALLS; number++) {
+            if (number == 3 && still) {
+                tell("set(3, 0)", x.set(3, 0), model.set(3, 0));
+            } else if (number < 9 && random.nextBoolean()) {
+                addPasture();
+            } else {
+                callAny();
+            }
+            if (got != want) {
+                Check.due("run " + seed + ", call " + number + ", " + call, got, want);
+                return;
+            }
+            if (number % CALLS_BETWEEN_LOOKS == CALLS_BETWEEN_LOOKS - 1) {
+                String difference = model.difference(x);
+                Check.same("run " + seed + " behind call " + number, difference, "");
+                if (!difference.isEmpty()) {
+                    return;
+                }
+            }
+        }
+    }
+
+    private int pick() {
+        int sum = 0;
+        for (int weight : weights) {
+            sum += weight;
+        }
+        int left = random.nextInt(sum);
+        int which = 0;
+        while (left >= weights[which]) {
+            left -= weights[which];
+            which++;
+        }
+        return which;
+    }
+
+    private void tell(String name, int answer, int due) {
+        call = name;
+        got = answer;
+        want = due;
+    }
+
+    /** A number that is mostly in its bounds, sometimes at them, and sometimes outside. */
+    private int in(int least, int most) {
+        int kind = random.nextInt(40);
+        if (kind == 0) {
+            return least - 1;
+        }
+        if (kind == 1) {
+            return most + 1;
+        }
+        if (kind == 2) {
+            return random.nextInt();
+        }
+        if (kind < 6) {
+            return random.nextBoolean() ? least : most;
+        }
+        return least + random.nextInt(Math.max(1, most - least + 1));
+    }
+
+    private int aPasture() {
+        return in(0, model.count(3) - 1);
+    }
+
+    private int aReader() {
+        return in(0, Math.max(0, model.count(6) - 1));
+    }
+
+    /** A shard: mostly one of few, so that it moves often. */
+    private int aShard() {
+        return random.nextInt(3) > 0 ? random.nextInt(3) : in(0, 15);
+    }
+
+    private int aKey() {
+        return random.nextInt(3) > 0 ? random.nextInt(48) : in(0, 255);
+    }
+
+    private void addPasture() {
+        int latitude = random.nextBoolean() ? 10 * random.nextInt(10) : in(0, 90);
+        int room = random.nextBoolean() ? 1 + random.nextInt(3) : in(1, 16);
+        boolean inn = random.nextBoolean();
+        tell("addPasture(" + latitude + ", " + room + ", " + inn + ")",
+            x.addPasture(latitude, room, inn), model.addPasture(latitude, room, inn));
+    }
+
+    private void callAny() {
+        int which = pick();
+        if (which < 9) {
+            change(which);
+        } else if (which < 21) {
+            happen(which);
+        } else {
+            ask(which);
+        }
+    }
+
+    private void change(int which) {
+        int a = aPasture();
+        int b;
+        boolean flag = random.nextBoolean();
+        switch (which) {
+            case 0 -> addPasture();
+            case 1 -> {
+                b = random.nextBoolean() ? in(1, 16) : in(1, 4);
+                tell("setRoom(" + a + ", " + b + ")", x.setRoom(a, b), model.setRoom(a, b));
+            }
+            case 2 -> tell("setInn(" + a + ", " + flag + ")", x.setInn(a, flag), model.setInn(a, flag));
+            case 3 -> {
+                b = in(1, 7);
+                tell("addWolf(" + a + ", " + b + ")", x.addWolf(a, b), model.addWolf(a, b));
+            }
+            case 4 -> tell("driveWolf()", x.driveWolf(), model.driveWolf());
+            case 5, 6 -> tell("addReader(" + a + ")", x.addReader(a), model.addReader(a));
+            case 7 -> {
+                a = in(0, 3);
+                b = random.nextBoolean() ? 10 * random.nextInt(10) : in(0, 90);
+                tell("setSeason(" + a + ", " + b + ")", x.setSeason(a, b), model.setSeason(a, b));
+            }
+            default -> {
+                int[] most = {30, 60, 90, 16, 30, 100};
+                a = random.nextInt(30) == 0 ? in(0, 5) : random.nextInt(6);
+                int bound = a >= 0 && a < 6 ? most[a] : 10;
+                b = random.nextBoolean() ? in(0, bound) : in(1, 6);
+                tell("set(" + a + ", " + b + ")", x.set(a, b), model.set(a, b));
+            }
+        }
+    }
+
+    private void happen(int which) {
+        int reader = aReader();
+        int key = aKey();
+        int shard = aShard();
+        int p = aPasture();
+        switch (which) {
+            case 9 -> {
+                int days = random.nextInt(3) > 0 ? 1 + random.nextInt(3) : in(1, 60);
+                tell("pass(" + days + ")", x.pass(days), model.pass(days));
+            }
+            case 10, 11 -> tell("move(" + shard + ", " + p + ")", x.move(shard, p), model.move(shard, p));
+            case 12 -> tell("post()", x.post(), model.post());
+            case 13 -> {
+                int wolf = in(0, 2);
+                tell("cut(" + wolf + ")", x.cut(wolf), model.cut(wolf));
+            }
+            case 14 -> tell("request(" + reader + ", " + key + ")",
+                x.request(reader, key), model.request(reader, key));
+            case 15 -> {
+                int value = in(0, 9999);
+                tell("write(" + reader + ", " + key + ", " + value + ")",
+                    x.write(reader, key, value), model.write(reader, key, value));
+            }
+            case 16, 17 -> typeOne();
+            case 18 -> {
+                toType.clear();
+                tell("clearText()", x.clearText(), model.clearText());
+            }
+            case 19 -> tell("readRequests()", x.readRequests(), model.readRequests());
+            default -> takeBack();
+        }
+    }
+
+    private void typeOne() {
+        if (toType.isEmpty()) {
+            for (char sign : (random.nextInt(8) == 0 ? "" : ",").concat(TEXTS[random.nextInt(TEXTS.length)]).toCharArray()) {
+                toType.add(sign);
+            }
+            if (model.count(14) > 0 && random.nextInt(3) == 0) {
+                tell("clearText()", x.clearText(), model.clearText());
+                toType.poll();
+                return;
+            }
+        }
+        char sign = toType.isEmpty() || random.nextInt(60) == 0 ? (char) random.nextInt(65536) : toType.poll();
+        tell("type(" + (int) sign + ")", x.type(sign), model.type(sign));
+        for (int i = random.nextInt(9); i > 0 && got == want && !toType.isEmpty(); i--) {
+            char next = toType.poll();
+            tell("type(" + (int) next + ")", x.type(next), model.type(next));
+        }
+    }
+
+    private void takeBack() {
+        switch (random.nextInt(4)) {
+            case 0 -> tell("keep()", x.keep(), model.keep());
+            case 1 -> tell("restore()", x.restore(), model.restore());
+            default -> tell("undo()", x.undo(), model.undo());
+        }
+    }
+
+    private void ask(int which) {
+        int reader = aReader();
+        int key = aKey();
+        int shard = aShard();
+        int p = aPasture();
+        int what = in(0, which == 29 ? 14 : 8);
+        switch (which) {
+            case 21 -> tell("pasture(" + p + ", " + what + ")", x.pasture(p, what), model.pasture(p, what));
+            case 22 -> {
+                int part = in(0, 2);
+                tell("track(" + p + ", " + shard + ", " + part + ")",
+                    x.track(p, shard, part), model.track(p, shard, part));
+            }
+            case 23 -> tell("shard(" + shard + ", " + what + ")", x.shard(shard, what), model.shard(shard, what));
+            case 24 -> tell("value(" + key + ")", x.value(key), model.value(key));
+            case 25 -> tell("reader(" + reader + ", " + what + ")",
+                x.reader(reader, what), model.reader(reader, what));
+            case 26 -> tell("remembered(" + reader + ", " + shard + ")",
+                x.remembered(reader, shard), model.remembered(reader, shard));
+            case 27 -> {
+                int part = in(0, 4);
+                tell("reach(" + reader + ", " + key + ", " + part + ")",
+                    x.reach(reader, key, part), model.reach(reader, key, part));
+            }
+            case 28 -> tell("way(" + reader + ", " + key + ", " + what + ")",
+                x.way(reader, key, what), model.way(reader, key, what));
+            default -> {
+                if (random.nextInt(3) > 0) {
+                    tell("movesIn(" + shard + ")", x.movesIn(shard), model.movesIn(shard));
+                } else {
+                    tell("count(" + what + ")", x.count(what), model.count(what));
+                }
+            }
+        }
+    }
+}
