@@ -8,6 +8,7 @@ final class HistoryTests {
     static void run() {
         undo();
         undoOfEachAct();
+        undoOfWhatIsWrittenOver();
         whatIsNoAct();
         keep();
         restore();
@@ -91,11 +92,12 @@ final class HistoryTests {
             case 14: return x.write(0, 200, 9);
             case 15: return x.readRequests();
             case 16: return x.restore();
-            default: return x.set(number - 17, 6);
+            case 17: return x.setInn(0, true);
+            default: return x.set(number - 18, 6);
         }
     }
 
-    private static final int ACTS = 23;
+    private static final int ACTS = 24;
 
     private static void undoOfEachAct() {
         for (int number = 0; number < ACTS; number++) {
@@ -111,6 +113,40 @@ final class HistoryTests {
             Check.same("act " + number + " undone", Told.state(x), before);
             Check.due("the text stays", x.count(14), 11);
         }
+    }
+
+    /** What an act puts in the place of something of the same kind comes back, too. */
+    private static void undoOfWhatIsWrittenOver() {
+        ShardTrails x = new ShardTrails();
+        x.addPasture(0, 16, false);
+        x.set(3, 0);
+        x.move(0, 1);
+        x.pass(1);
+        x.move(0, 0);
+        x.move(0, 1);
+        Check.due("left on day 1", x.track(0, 0, 1), 1);
+        x.undo();
+        x.undo();
+        Check.due("left on day 0", x.track(0, 0, 1), 0);
+        x.set(1, 1);
+        x.pass(1);
+        Check.due("grown over", x.count(10), 1);
+        x.undo();
+        Check.due("not grown over", x.count(10), 0);
+        ShardTrails y = new ShardTrails();
+        y.addPasture(0, 16, false);
+        y.addWolf(1, 2);
+        y.addReader(1);
+        y.keep();
+        y.undo();
+        y.undo();
+        y.addWolf(0, 1);
+        y.addReader(0);
+        y.restore();
+        Check.due("the first home", y.reader(0, 0), 1);
+        Check.due("the first wolf", y.pasture(1, 7), 1);
+        y.pass(1);
+        Check.due("its stride", y.pasture(1, 7), 1);
     }
 
     private static void whatIsNoAct() {

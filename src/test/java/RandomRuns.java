@@ -201,7 +201,8 @@ final class RandomRuns {
 
     private void typeOne() {
         if (toType.isEmpty()) {
-            for (char sign : (random.nextInt(8) == 0 ? "" : ",").concat(TEXTS[random.nextInt(TEXTS.length)]).toCharArray()) {
+            String between = random.nextInt(8) == 0 ? "" : ",";
+            for (char sign : (between + TEXTS[random.nextInt(TEXTS.length)]).toCharArray()) {
                 toType.add(sign);
             }
             if (model.count(14) > 0 && random.nextInt(3) == 0) {

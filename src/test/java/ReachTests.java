@@ -24,6 +24,8 @@ final class ReachTests {
         askedOnce();
         nearestInn();
         nearestFromWhereItIs();
+        innFarAway();
+        eightPastures();
         longWay();
         wrong();
         changesNothing();
@@ -208,6 +210,43 @@ final class ReachTests {
         x.setInn(2, false);
         way(x, 0, 5, 4);
         reach(x, 0, 6, 0, 0, 0, 1);
+    }
+
+    private static void innFarAway() {
+        ShardTrails x = land(new int[] {90, 0}, new boolean[] {true, false});
+        x.addReader(2);
+        x.move(SHARD, 1);
+        reach(x, 0, 1, 0, 0, 1, 0);
+        way(x, 0, 2, 1);
+    }
+
+    /** As many pastures as there can be, with all that happens in them. */
+    private static void eightPastures() {
+        ShardTrails x = flat(false, false, false, false, false, false, true);
+        x.set(1, 1);
+        x.addReader(3);
+        x.addWolf(7, 7);
+        x.move(SHARD, 7);
+        x.move(SHARD, 6);
+        Check.due("inns", x.post(), 1);
+        reach(x, 0, 2, 1, 0, 1, 0);
+        way(x, 0, 3, 7, 6);
+        Check.due("request", x.request(0, KEY), 2);
+        Check.due("sent to 7", x.pasture(7, 8), 1);
+        x.pass(2);
+        Check.due("kept by the inn", x.track(7, SHARD, 0), 6);
+        Check.due("grown over elsewhere", x.count(10), 1);
+        Check.due("the wolf", x.pasture(5, 7), 1);
+        Check.due("shards", x.pasture(6, 3), 1);
+        Check.due("tracks", x.count(7), 1);
+        Check.due("posted on day 2", x.pass(1), 0);
+        Check.due("posted", x.track(7, SHARD, 2), 6);
+        x.setInn(7, false);
+        x.pass(1);
+        Check.due("grown over in the last", x.count(10), 2);
+        x.move(SHARD, 0);
+        x.pass(2);
+        Check.due("a cry costs eight", x.reach(0, 0, 0), 8);
     }
 
     private static void longWay() {

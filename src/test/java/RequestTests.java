@@ -11,6 +11,7 @@ final class RequestTests {
         requestWrong();
         hopsAndCries();
         innsSentTo();
+        innInTheFirstPasture();
         heat();
         write();
         writeWrong();
@@ -109,6 +110,15 @@ final class RequestTests {
         x.undo();
         x.undo();
         Check.due("before the last", x.pasture(1, 8), 3);
+    }
+
+    private static void innInTheFirstPasture() {
+        ShardTrails x = new ShardTrails();
+        x.addPasture(0, 16, false);
+        x.setInn(0, true);
+        x.addReader(1);
+        Check.due("sent to 0", x.request(0, 0), 1);
+        Check.due("told", x.pasture(0, 8), 1);
     }
 
     private static void heat() {

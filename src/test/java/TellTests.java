@@ -11,8 +11,10 @@ final class TellTests {
         pasture();
         track();
         shard();
+        heatOfAPasture();
         placeByHeat();
         lookedAt();
+        lookedAtFarAway();
         value();
         reader();
         count();
@@ -103,6 +105,20 @@ final class TellTests {
         Check.due("what 7", x.shard(0, 7), BAD_VALUE);
     }
 
+    private static void heatOfAPasture() {
+        ShardTrails x = new ShardTrails();
+        x.addPasture(0, 16, false);
+        x.addReader(0);
+        x.request(0, 0);
+        x.request(0, 255);
+        x.request(0, 16);
+        Check.due("three warm shards", x.pasture(0, 6), 60);
+        x.move(0, 1);
+        x.move(15, 1);
+        Check.due("the one that is left", x.pasture(0, 6), 20);
+        Check.due("the two that went", x.pasture(1, 6), 40);
+    }
+
     private static void placeByHeat() {
         ShardTrails x = new ShardTrails();
         x.addReader(0);
@@ -141,6 +157,17 @@ final class TellTests {
         Check.due("and the drovers are", x.shard(3, 5), 0);
         x.setRoom(0, 12);
         Check.due("unless that is full", x.shard(3, 5), NONE);
+    }
+
+    private static void lookedAtFarAway() {
+        ShardTrails x = new ShardTrails();
+        x.addPasture(0, 1, false);
+        x.addPasture(0, 1, false);
+        x.setSeason(0, 90);
+        Check.due("distance", x.pasture(1, 5), 90);
+        Check.due("at the greatest distance", x.shard(0, 5), 1);
+        x.move(3, 1);
+        Check.due("at the greatest distance", x.shard(0, 5), 2);
     }
 
     private static void value() {

@@ -219,6 +219,8 @@ final class TextTests {
         Check.due("key 999", read(x, "0:999=9999"), UNKNOWN);
         Check.due("a fault behind them", read(x, "5:999,"), -106);
         Check.due("the first of two", read(x, "5:0,0:0"), UNKNOWN);
+        Check.due("the second of two", read(x, "0:0,5:0"), UNKNOWN);
+        Check.due("which is no longer there", read(x, "0:0"), 0);
     }
 
     private static void hopsTogether() {

@@ -1,4 +1,7 @@
-/** All that an object tells, as one text, to see what a call changed. */
+/**
+ * All that an object tells, as one text, to see what a call changed. It takes far more than the 512
+ * calls that the document promises; the class does not count its calls, so that this changes nothing.
+ */
 final class Told {
     private Told() {
     }
