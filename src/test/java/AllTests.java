@@ -19,6 +19,8 @@ public final class AllTests {
         TextTests.run();
         HistoryTests.run();
         TellTests.run();
+        EdgeTests.run();
+        RefusalTests.run();
         RandomRuns.run();
         if (Check.finish() != 0) {
             System.exit(1);

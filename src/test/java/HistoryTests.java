@@ -1,6 +1,10 @@
+import java.util.function.Consumer;
+
 /** Promises 19 to 21: acts are undone, and a snapshot is kept and restored. */
 final class HistoryTests {
     private static final int NONE = ShardTrails.NONE;
+    private static final int ACTS = 24;
+    private static final int RESTORE = 16;
 
     private HistoryTests() {
     }
@@ -49,30 +53,6 @@ final class HistoryTests {
         Check.due("the oldest of nine that is there", x.set(5, 71), 64);
     }
 
-    /** An object in which every act is possible, and whose history is not full. */
-    private static ShardTrails busy() {
-        ShardTrails x = new ShardTrails();
-        x.addPasture(60, 8, true);
-        x.addPasture(30, 8, false);
-        x.addPasture(10, 8, true);
-        x.addWolf(0, 1);
-        x.addWolf(2, 3);
-        x.addReader(2);
-        x.move(0, 2);
-        x.move(0, 1);
-        x.move(1, 2);
-        x.write(0, 3, 33);
-        for (char sign : "0:17=9,0:40".toCharArray()) {
-            x.type(sign);
-        }
-        x.undo();
-        x.undo();
-        x.undo();
-        x.write(0, 3, 33);
-        x.move(1, 2);
-        return x;
-    }
-
     private static int act(ShardTrails x, int number) {
         switch (number) {
             case 0: return x.addPasture(44, 3, true);
@@ -91,28 +71,34 @@ final class HistoryTests {
             case 13: return x.request(0, 100);
             case 14: return x.write(0, 200, 9);
             case 15: return x.readRequests();
-            case 16: return x.restore();
+            case RESTORE: return x.restore();
             case 17: return x.setInn(0, true);
             default: return x.set(number - 18, 6);
         }
     }
 
-    private static final int ACTS = 24;
-
     private static void undoOfEachAct() {
+        Unchanged undone = new Unchanged(HistoryTests::withSnapshot);
         for (int number = 0; number < ACTS; number++) {
-            ShardTrails x = busy();
-            x.keep();
-            x.undo();
-            String before = Told.state(x);
+            int which = number;
+            ShardTrails x = new ShardTrails();
+            withSnapshot(x);
             int states = x.count(13);
             int answer = act(x, number);
             Check.holds("act " + number + " answers " + answer, answer >= 0);
             Check.due("states after act " + number, x.count(13), states + 1);
-            Check.due("undo() of act " + number, x.undo(), states);
-            Check.same("act " + number + " undone", Told.state(x), before);
-            Check.due("the text stays", x.count(14), 11);
+            undone.due("undo() of act " + number, states, y -> {
+                act(y, which);
+                return y.undo();
+            });
         }
+    }
+
+    /** Busy, with a snapshot of another state. */
+    private static void withSnapshot(ShardTrails x) {
+        Worlds.busy(x);
+        x.keep();
+        x.undo();
     }
 
     /** What an act puts in the place of something of the same kind comes back, too. */
@@ -150,10 +136,10 @@ final class HistoryTests {
     }
 
     private static void whatIsNoAct() {
-        ShardTrails x = busy();
+        ShardTrails x = new ShardTrails();
+        Worlds.busy(x);
         int states = x.count(13);
         x.keep();
-        Told.everything(x);
         x.type('x');
         x.clearText();
         x.readRequests();
@@ -210,20 +196,24 @@ final class HistoryTests {
     }
 
     private static void snapshotOfAll() {
-        ShardTrails x = busy();
-        String kept = Told.state(x);
-        x.keep();
-        for (int number = 0; number < ACTS; number++) {
-            if (number != 16) {
-                act(x, number);
+        String kept = Told.state(Worlds::busy);
+        Consumer<ShardTrails> changed = x -> {
+            Worlds.busy(x);
+            x.keep();
+            for (int number = 0; number < ACTS; number++) {
+                if (number != RESTORE) {
+                    act(x, number);
+                }
             }
-        }
-        Check.holds("much is changed", !Told.state(x).equals(kept));
-        Check.due("day 0", x.restore(), 0);
-        Check.same("all is restored", Told.state(x), kept);
-        act(x, 14);
-        act(x, 10);
-        Check.due("day 0", x.restore(), 0);
-        Check.same("all is restored again", Told.state(x), kept);
+        };
+        Check.holds("much is changed", !Told.state(changed).equals(kept));
+        Consumer<ShardTrails> restored = changed.andThen(ShardTrails::restore);
+        Check.same("all is restored", Told.state(restored), kept);
+        Consumer<ShardTrails> again = restored.andThen(x -> {
+            act(x, 14);
+            act(x, 10);
+            x.restore();
+        });
+        Check.same("all is restored again", Told.state(again), kept);
     }
 }

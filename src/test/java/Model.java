@@ -3,11 +3,10 @@ import java.util.ArrayList;
 import java.util.Comparator;
 import java.util.Deque;
 import java.util.HashMap;
-import java.util.HashSet;
 import java.util.List;
 import java.util.Map;
-import java.util.Set;
 import java.util.TreeMap;
+import java.util.function.ToIntFunction;
 import java.util.regex.Matcher;
 import java.util.regex.Pattern;
 
@@ -23,6 +22,10 @@ final class Model {
     private static final int NONE = -5;
     private static final Pattern REQUESTS = Pattern.compile(
         "[0-5]:(0|[1-9][0-9]{0,2})(=(0|[1-9][0-9]{0,3}))?(,[0-5]:(0|[1-9][0-9]{0,2})(=(0|[1-9][0-9]{0,3}))?)*");
+
+    /** A call that tells something, and the answer that is due. */
+    record Question(String name, ToIntFunction<ShardTrails> call, int due) {
+    }
 
     private record Track(int to, int day) {
     }
@@ -663,48 +666,59 @@ final class Model {
         return tell(told, what);
     }
 
-    /** Whether all that both tell is the same; the first difference, or an empty text. */
-    String difference(ShardTrails x) {
-        for (int what = 0; what <= 14; what++) {
-            if (x.count(what) != count(what)) {
-                return "count(" + what + "): " + x.count(what) + ", not " + count(what);
-            }
+    /** All that can be told now, with the answers that are due. */
+    List<Question> questions() {
+        List<Question> all = new ArrayList<>();
+        for (int i = 0; i <= 14; i++) {
+            int what = i;
+            all.add(new Question("count(" + what + ")", x -> x.count(what), count(what)));
         }
-        for (int p = 0; p < world.pastures.size(); p++) {
-            for (int what = 0; what <= 8; what++) {
-                if (x.pasture(p, what) != pasture(p, what)) {
-                    return "pasture(" + p + ", " + what + ")";
-                }
-            }
+        for (int i = 0; i < world.pastures.size(); i++) {
+            addPasture(all, i);
         }
-        Set<String> wrong = new HashSet<>();
-        for (int s = 0; s < 16; s++) {
-            for (int what = 0; what <= 6; what++) {
-                if (x.shard(s, what) != shard(s, what)) {
-                    wrong.add("shard(" + s + ", " + what + ")");
-                }
-            }
-            for (int p = 0; p < world.pastures.size(); p++) {
-                for (int what = 0; what <= 2; what++) {
-                    if (x.track(p, s, what) != track(p, s, what)) {
-                        wrong.add("track(" + p + ", " + s + ", " + what + ")");
-                    }
-                }
-            }
-            for (int r = 0; r < world.readers.size(); r++) {
-                if (x.remembered(r, s) != remembered(r, s)) {
-                    wrong.add("remembered(" + r + ", " + s + ")");
-                }
-                for (int what = 0; what <= 4; what++) {
-                    if (x.reach(r, 16 * s, what) != reach(r, 16 * s, what)) {
-                        wrong.add("reach(" + r + ", " + 16 * s + ", " + what + ")");
-                    }
-                    if (x.reader(r, what) != reader(r, what)) {
-                        wrong.add("reader(" + r + ", " + what + ")");
-                    }
-                }
-            }
+        for (int i = 0; i < 16; i++) {
+            addShard(all, i);
         }
-        return wrong.isEmpty() ? "" : wrong.toString();
+        for (int i = 0; i < world.readers.size(); i++) {
+            addReader(all, i);
+        }
+        return all;
+    }
+
+    private void addPasture(List<Question> all, int p) {
+        for (int i = 0; i <= 8; i++) {
+            int what = i;
+            all.add(new Question("pasture(" + p + ", " + what + ")", x -> x.pasture(p, what), pasture(p, what)));
+        }
+        for (int i = 0; i < 16 * 3; i++) {
+            int s = i / 3;
+            int what = i % 3;
+            all.add(new Question("track(" + p + ", " + s + ", " + what + ")",
+                x -> x.track(p, s, what), track(p, s, what)));
+        }
+    }
+
+    private void addShard(List<Question> all, int s) {
+        for (int i = 0; i <= 6; i++) {
+            int what = i;
+            all.add(new Question("shard(" + s + ", " + what + ")", x -> x.shard(s, what), shard(s, what)));
+        }
+    }
+
+    private void addReader(List<Question> all, int r) {
+        for (int i = 0; i <= 4; i++) {
+            int what = i;
+            all.add(new Question("reader(" + r + ", " + what + ")", x -> x.reader(r, what), reader(r, what)));
+        }
+        for (int i = 0; i < 16; i++) {
+            int s = i;
+            all.add(new Question("remembered(" + r + ", " + s + ")", x -> x.remembered(r, s), remembered(r, s)));
+        }
+        for (int i = 0; i < 16 * 5; i++) {
+            int key = 16 * (i / 5);
+            int what = i % 5;
+            all.add(new Question("reach(" + r + ", " + key + ", " + what + ")",
+                x -> x.reach(r, key, what), reach(r, key, what)));
+        }
     }
 }

@@ -67,8 +67,12 @@ final class NewObjectTests {
     }
 
     private static void objectsOfTheirOwn() {
-        ShardTrails x = new ShardTrails();
-        String before = Told.everything(x);
+        String before = Told.everything(x -> { });
+        Check.same("one object beside another", Told.everything(x -> useAnother()), before);
+        Check.same("a later object", Told.everything(x -> { }), before);
+    }
+
+    private static void useAnother() {
         ShardTrails y = new ShardTrails();
         y.addPasture(60, 16, true);
         y.addReader(0);
@@ -77,7 +81,5 @@ final class NewObjectTests {
         y.type('0');
         y.keep();
         y.pass(3);
-        Check.same("one object beside another", Told.everything(x), before);
-        Check.same("a later object", Told.everything(new ShardTrails()), before);
     }
 }

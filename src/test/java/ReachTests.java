@@ -291,15 +291,22 @@ final class ReachTests {
     }
 
     private static void changesNothing() {
-        ShardTrails x = flat(true, true, false);
-        x.addReader(2);
-        x.move(SHARD, 3);
-        String before = Told.everything(x);
-        reach(x, 0, 2 + 4, 0, 0, 2, 1);
-        way(x, 0, 2, 1, 2, 3);
-        Check.same("nothing is changed", Told.everything(x), before);
-        Check.due("sent to 1", x.pasture(1, 8), 0);
-        Check.due("heat", x.shard(SHARD, 1), 0);
-        Check.due("cries", x.count(12), 0);
+        Unchanged asked = new Unchanged(x -> {
+            x.addPasture(0, 16, true);
+            x.addPasture(0, 16, true);
+            x.addPasture(0, 16, false);
+            x.addReader(2);
+            x.move(SHARD, 3);
+        });
+        for (int what = 0; what < 5; what++) {
+            int number = what;
+            asked.due("reach(0, key, " + what + ")", new int[] {2 + 4, 0, 0, 2, 1}[what],
+                x -> x.reach(0, KEY, number));
+        }
+        for (int place = 0; place < 5; place++) {
+            int number = place;
+            asked.due("way(0, key, " + place + ")", new int[] {2, 1, 2, 3, NONE}[place],
+                x -> x.way(0, KEY, number));
+        }
     }
 }
