@@ -22,6 +22,7 @@ final class EdgeTests {
         leastAndMostMargin();
         allDrovers();
         onlyMovesNeedDrovers();
+        askedAnewEachDay();
         postBeginsAgain();
         severalAtTheEdgesOfADay();
         tracksOfOthers();
@@ -227,6 +228,25 @@ final class EdgeTests {
         Check.due("the hottest is there", x.shard(9, 4), 0);
         Check.due("the next moves", x.pass(1), 1);
         Check.due("shard 0", x.shard(0, 0), 1);
+    }
+
+    /** "As they are at the beginning of this step": the order of one day is none of the next. */
+    private static void askedAnewEachDay() {
+        ShardTrails x = withPasture(60, 16);
+        x.addReader(0);
+        x.set(DROVERS, 1);
+        x.request(0, 9 * 16);
+        x.pass(1);
+        Check.due("the hottest", x.shard(9, 0), 1);
+        x.pass(1);
+        Check.due("the lowest number of the cold", x.shard(0, 0), 1);
+        x.request(0, 12 * 16);
+        x.pass(1);
+        Check.due("the hottest then", x.shard(12, 0), 1);
+        x.pass(1);
+        Check.due("the next of the cold", x.shard(1, 0), 1);
+        Check.due("foretold", x.movesIn(2), 1);
+        Check.due("foretold", x.movesIn(2), 1);
     }
 
     /** "If (day + 1) can be divided by the post". */
