@@ -9,6 +9,7 @@ public final class AllTests {
     public static void main(String[] args) throws IOException {
         Path root = Path.of(args.length > 0 ? args[0] : ".");
         RuleTests.run(root);
+        ReadmeTests.run(root);
         NewObjectTests.run();
         PastureTests.run();
         SettingTests.run();
